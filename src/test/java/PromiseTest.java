@@ -256,6 +256,18 @@ public final class PromiseTest {
     reads("church 3", -18);
     reads("church 3 ", -19);
     reads("church 3;", 1);
+    reads("church 0;", 1);
+    reads("dhurch 3;", -10);
+    reads("churci 3;", -10);
+    reads("church 3;cola 0;", -19);
+    reads(" ".repeat(150), -160);
+    reads("z".repeat(150), -10);
+    reads("z".repeat(160), -10);
+    reads("church 0z;", -18);
+    reads("7".repeat(150), -10);
+    reads(" ".repeat(144) + "church", -160);
+    reads(" ".repeat(142) + "church30", -160);
+    reads(" ".repeat(141) + "church30;", 1);
     reads("church 3; ", 1);
     reads("church30;", 1);
     reads("church 31;", -17);
@@ -386,6 +398,12 @@ public final class PromiseTest {
     due("count(5): none behind a family", x.count(5), 0);
     due("undo()", x.undo(), NO);
     due("count(2)", x.count(2), 1);
+    x.cold(0, 0);
+    for (int i = 0; i < 8; i++) x.cold(i % 3, 1 - i % 2);
+    // Behind the nine: cold(0, 0); then 0 ill, 1 well, 2 ill, 0 well, 1 ill, 2 well, 0 ill, 1 well.
+    long[] ill = {2, 1, 2, 1, 2, 1, 1, 0};
+    for (int i = 0; i < 8; i++) due("undo() of colds", x.undo(), ill[i]);
+    due("undo() of colds", x.undo(), NO);
   }
 
   private static void of() {
@@ -567,6 +585,18 @@ public final class PromiseTest {
     due("seats(NONE), the deacon ahead", z.seats(NONE), 25);
     due("seats(0)", z.seats(0), 2);
     due("seats(1)", z.seats(1), 1);
+    EveryPew small = new EveryPew();
+    small.family(4, 0, 2, 1, 0);
+    small.family(4, 1, 1, 1, 1);
+    due("seats(NONE), none is high at all", small.seats(NONE), 16);
+    due("seats(0)", small.seats(0), 0);
+    due("seats(1)", small.seats(1), 1);
+    EveryPew seven = new EveryPew();
+    for (int i = 0; i < 4; i++) seven.family(0, 0, 8 - 2 * i, 1, 2 * i);
+    for (int i = 0; i < 3; i++) seven.family(0, 1, 7 - 2 * i, 1, 2 * i + 1);
+    due("seats(NONE), seven by height", seven.seats(NONE), 112);
+    for (int i = 0; i < 4; i++) due("seats(" + i + "), by height", seven.seats(i), 6 - 2 * i);
+    for (int i = 0; i < 3; i++) due("seats(" + (4 + i) + "), by height", seven.seats(4 + i), 5 - 2 * i);
   }
 
   private static void change() {
@@ -597,6 +627,11 @@ public final class PromiseTest {
     x.cold(0, 1);
     due("change(0), none helps", x.change(0), 7);
     due("change(1), none helps", x.change(1), 0);
+    x.family(0, 1, 1, 3, 3);
+    x.family(0, 1, 1, 5, 5);
+    // 2 against 8: by the 3 it were 5 against 5.
+    due("change(0), one of book 1", x.change(0), 2);
+    due("change(1), one of book 1", x.change(1), 16);
     long before = x.digest();
     due("change(2)", x.change(2), BAD);
     due("change(-1)", x.change(-1), BAD);
@@ -607,6 +642,12 @@ public final class PromiseTest {
     promise = 20;
     EveryPew x = new EveryPew();
     due("still() of nobody", x.still(), 0);
+    x.church(0);
+    x.family(0, 0, 1, 3, 0);
+    x.family(0, 0, 1, 3, 2);
+    x.family(0, 0, 1, 6, 4);
+    x.family(0, 1, 1, 6, 1);
+    due("still(): fewest, though another set is less", x.still(), 4);
     x.church(2);
     x.family(0, 0, 1, 5, 0);
     x.family(0, 0, 1, 4, 2);
@@ -840,6 +881,8 @@ public final class PromiseTest {
     x.family(0, 1, 1, 10, 1);
     due("sundays(0, 1): both have one", x.sundays(0, 1), 1);
     due("sundays(0, 2): the first alone", x.sundays(0, 2), 1);
+    x.family(0, 0, 1, 5, 2);
+    due("sundays(999999, 60)", x.sundays(999999, 60), 44);
     due("count(2): nothing is changed", x.count(2), 1);
     long before = x.digest();
     due("sundays(-1, 0)", x.sundays(-1, 0), BAD);
@@ -893,6 +936,9 @@ public final class PromiseTest {
     due("image(0)", x.image(0), 1);
     long other = x.digest();
     x.church(1);
+    x.heard(7, 0, 9);
+    x.family(0, 0, 1, 1, 8);
+    for (int i = 0; i < 3; i++) x.move(0, 2 * i);
     due("from(1)", x.from(1), 1);
     due("digest()", x.digest(), kept);
     due("undo()", x.undo(), 1);

@@ -1,4 +1,8 @@
-/** The promises of the document one by one, with answers worked out by hand from its words. */
+/**
+ * The promises of the document one by one. The answers were worked out from its words, most of them by hand
+ * (sundays(999999, 60) by a few lines apart from the class); digests ahead of refused calls are the class's own,
+ * and anyNumber looks only at that nothing is thrown.
+ */
 public final class PromiseTest {
   private static final int NONE = -1, BAD = -2, NO = -3, FULL = -4;
   private static int checks = 0;

@@ -19,12 +19,15 @@ final class Bench {
   private static String words = "";
   private static int tests;
   private static int checks;
+  private static int checksBefore;
   private static int wrong;
 
   private Bench() {}
 
   /** Begins a test: all that follows is due by these words of the document. */
   static void about(int itsPromise, String itsWords) {
+    if (tests > 0 && checks == checksBefore) fail("quoted, but nothing was looked at");
+    checksBefore = checks;
     promise = itsPromise;
     words = itsWords;
     tests++;

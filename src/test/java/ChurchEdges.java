@@ -109,7 +109,6 @@ final class ChurchEdges {
 
   private static void familiesAsTheyCome() {
     Bench.about(4, "FAMILIES 0 .. 6, as they come:");
-    Bench.about(4, "A FAMILY: the number.");
     EveryPew x = new EveryPew();
     int[] pews = {8, 9, 6, 1, 0, 5, 2};
     for (int f = 0; f < 7; f++) {
@@ -121,8 +120,17 @@ final class ChurchEdges {
     }
     Bench.due("count(0)", x.count(0), 7);
     Bench.due("of(7, 0)", x.of(7, 0), Bench.BAD);
+    Bench.about(4, "A FAMILY: the number.");
     x.church(9);
     Bench.due("the first behind church", x.family(0, 0, 1, 1, 0), 0);
+    Bench.due("a refused one behind it", x.family(0, 0, 1, 1, 0), Bench.NO);
+    Bench.due("the second", x.family(0, 0, 1, 1, 2), 1);
+    Scene scene = Scene.midway();
+    EveryPew y = scene.make();
+    Bench.due("midway: family(4, 1, 9, 1, 1)", y.family(4, 1, 9, 1, 1), 3);
+    scene.church.families = new int[][] {{0, 0, 5, 7, 8, 0}, {1, 1, 6, 5, 3, 0}, {5, 1, 9, 20, 9, 1}, {4, 1, 9, 1, 1, 0}};
+    scene.church.steps = new int[][] {};
+    scene.check(y, "family(4, 1, 9, 1, 1)");
   }
 
   private static void isAsTold(int kind, int b, int tall, int voices, int pew) {
@@ -143,16 +151,26 @@ final class ChurchEdges {
   }
 
   private static void pewsOfBooks() {
-    Bench.about(4, "PEWS 0 .. 9, 0 in front; even ones are BOOK 0's, odd ones BOOK 1's.");
+    Bench.about(4, "even ones are BOOK 0's, odd ones BOOK 1's.");
     for (int pew = 0; pew < 10; pew++) {
       isAsTold(0, pew % 2, 5, 5, pew);
       int itsPew = pew;
       int other = 1 - pew % 2;
       Bench.refused(Scene::fresh, "family(0, " + other + ", 5, 5, " + pew + ")", x -> x.family(0, other, 5, 5, itsPew), Bench.BAD);
     }
+    Bench.about(4, "PEWS 0 .. 9, 0 in front;");
     EveryPew x = new EveryPew();
     for (int pew = 0; pew < 5; pew++) x.family(0, pew % 2, 5, 5, pew);
     Bench.due("seers(0), all alike: the one in pew 0", x.seers(0), 1);
+    EveryPew y = new EveryPew();
+    y.family(0, 1, 5, 5, 9);
+    y.family(0, 0, 5, 5, 8);
+    Bench.due("seers(0), all alike: pew 9 is behind pew 8", y.seers(0), 2);
+    for (int b = 0; b < 2; b++) {
+      int book = b;
+      Bench.refused(Scene::fresh, "family(0, " + b + ", 5, 5, " + (10 + b) + ")", z -> z.family(0, book, 5, 5, 10 + book), Bench.BAD);
+      Bench.refused(Scene::fresh, "family(0, " + b + ", 5, 5, " + (b - 2) + ")", z -> z.family(0, book, 5, 5, book - 2), Bench.BAD);
+    }
   }
 
   private static void takenPews() {

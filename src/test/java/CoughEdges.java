@@ -24,7 +24,6 @@ final class CoughEdges {
 
   private static void heard() {
     Bench.about(21, "HEARD 0 .. 5, as they come: at WORD w BOOK b was LOUD n (0 .. 140).");
-    Bench.about(21, "HEARD: how many there are.");
     EveryPew x = new EveryPew();
     int[][] rows = {{0, 0, 0}, {15, 1, 140}, {0, 1, 0}, {15, 0, 140}, {7, 0, 1}, {7, 0, 1}};
     for (int i = 0; i < 6; i++) {
@@ -37,6 +36,7 @@ final class CoughEdges {
     Bench.due("digest(): in the order in which they came", x.digest(), told.digest(0, 0, 1));
     for (int n = 0; n <= 140; n++) Bench.due("heard(0, 0, " + n + ")", new EveryPew().heard(0, 0, n), 1);
     for (int w = 0; w < 16; w++) Bench.due("heard(" + w + ", 1, 0)", new EveryPew().heard(w, 1, 0), 1);
+    Bench.about(21, "HEARD: how many there are.");
     Scene scene = Scene.midway();
     EveryPew y = scene.make();
     Bench.due("heard(15, 1, 140)", y.heard(15, 1, 140), 3);
@@ -85,7 +85,6 @@ final class CoughEdges {
 
   private static void coughed() {
     Bench.about(23, "COUGHED: sets of FAMILIES that may have had a COLD (all of them; nobody else) so that all HEARD is so: how many; FAMILIES (bits) in all of them, in some.");
-    Bench.about(23, "COUGHED: how many sets (0), in all (1; bits; NONE: no set), in some (2; bits).");
     fits("nobody, nothing heard", new EveryPew(), 1, 0, 0);
     EveryPew x = twenties();
     fits("seven, nothing heard", x, 128, 0, 127);
@@ -123,6 +122,7 @@ final class CoughEdges {
     EveryPew six = twenties();
     for (int i = 0; i < 6; i++) six.heard(i, 0, i == 5 ? 99 : 100);
     fits("the sixth is not so", six, 0, Bench.NONE, 0);
+    Bench.about(23, "COUGHED: how many sets (0), in all (1; bits; NONE: no set), in some (2; bits).");
     int[][] due = {{1, 0, 0}, {1, 4, 4}, {0, Bench.NONE, 0}};
     for (int i = 0; i < 3; i++)
       for (int what = 0; what < 3; what++) {
@@ -137,11 +137,7 @@ final class CoughEdges {
   }
 
   private static void next() {
-    Bench.about(24, "HEAR NEXT: the WORD by which, of these sets, the most that make BOOK 0 alike LOUD are fewest; of like ones the first; none: no set.");
-    Bench.about(24, "HEAR NEXT. NONE.");
-    Bench.asks(Scene::fresh, "next()", EveryPew::next, 0);
-    Bench.asks(Scene::midway, "next()", EveryPew::next, 0);
-    Bench.asks(Scene::crowded, "next()", EveryPew::next, Bench.NONE);
+    Bench.about(24, "HEAR NEXT: the WORD by which, of these sets, the most that make BOOK 0 alike LOUD are fewest; of like ones the first;");
     for (int only = 0; only < 16; only++) {
       EveryPew x = new EveryPew();
       x.family(0, 0, 5, 10, 0);
@@ -169,8 +165,6 @@ final class CoughEdges {
     Bench.due("the 4 alone is unknown: next()", x.next(), 2);
     x.heard(2, 0, 7);
     Bench.due("one set: next()", x.next(), 0);
-    x.heard(2, 0, 3);
-    Bench.due("no set: next()", x.next(), Bench.NONE);
     // 3, 3 and 6: sums 0 3 3 6 6 9 9 12, two alike at most; with the 6 kneeling 0 3 3 6 twice, four alike.
     EveryPew y = new EveryPew();
     y.family(0, 0, 5, 3, 0);
@@ -178,20 +172,20 @@ final class CoughEdges {
     y.family(2, 0, 5, 6, 4);
     y.book(1, 32767);
     Bench.due("the most alike are fewest at the last word: next()", y.next(), 15);
+    Bench.about(24, "none: no set.");
+    x.heard(2, 0, 3);
+    Bench.due("7 and 3 heard at a word: next()", x.next(), Bench.NONE);
+    EveryPew none = new EveryPew();
+    none.heard(0, 0, 1);
+    Bench.due("1 heard of nobody: next()", none.next(), Bench.NONE);
+    Bench.about(24, "HEAR NEXT. NONE.");
+    Bench.asks(Scene::fresh, "next()", EveryPew::next, 0);
+    Bench.asks(Scene::midway, "next()", EveryPew::next, 0);
+    Bench.asks(Scene::crowded, "next()", EveryPew::next, Bench.NONE);
   }
 
   private static void is() {
     Bench.about(25, "IS: KINDS (bits) by which, were a FAMILY of it, all HEARD is so (COLDS as now).");
-    Bench.about(25, "IS, as bits.");
-    int[] midway = {13, 18, 63};
-    for (int f = 0; f < 3; f++) {
-      int it = f;
-      Bench.asks(Scene::midway, "is(" + f + ")", x -> x.is(it), midway[f]);
-    }
-    for (int f = 0; f < 7; f++) {
-      int it = f;
-      Bench.asks(Scene::crowded, "is(" + f + ")", x -> x.is(it), 0);
-    }
     EveryPew x = new EveryPew();
     x.family(0, 0, 5, 1, 0);
     Bench.due("nothing heard: is(0)", x.is(0), 63);
@@ -208,6 +202,16 @@ final class CoughEdges {
     x.forget();
     x.heard(0, 0, 0);
     Bench.due("0 with a cold: is(0)", x.is(0), 63);
+    Bench.about(25, "IS, as bits.");
+    int[] midway = {13, 18, 63};
+    for (int f = 0; f < 3; f++) {
+      int it = f;
+      Bench.asks(Scene::midway, "is(" + f + ")", y -> y.is(it), midway[f]);
+    }
+    for (int f = 0; f < 7; f++) {
+      int it = f;
+      Bench.asks(Scene::crowded, "is(" + f + ")", y -> y.is(it), 0);
+    }
     Bench.about(25, "BAD.");
     for (Supplier<Scene> of : Bench.SCENES)
       for (int f : Bench.outside(0, of.get().families() - 1)) Bench.refused(of, "is(" + f + ")", y -> y.is(f), Bench.BAD);
@@ -262,7 +266,6 @@ final class CoughEdges {
 
   private static void feasts() {
     Bench.about(27, "FEASTS: each a YEARS from year b, c YEARS from year d (a, c 1 .. 40; b, d 0 .. 99): the first year (from both on) in which both fall; none.");
-    Bench.about(27, "FEASTS. NONE.");
     int[][] rows = {
       {1, 0, 1, 0, 0}, {1, 99, 1, 99, 99}, {1, 0, 1, 99, 99}, {1, 99, 1, 0, 99}, {40, 0, 40, 0, 0}, {40, 99, 40, 99, 99},
       {40, 0, 40, 40, 40}, {40, 80, 40, 0, 80}, {40, 0, 40, 99, -1}, {2, 0, 2, 1, -1}, {2, 0, 1, 1, 2}, {40, 0, 1, 99, 120},
@@ -275,6 +278,7 @@ final class CoughEdges {
         for (int b : years)
           for (int d : years) Bench.due("feasts(" + a + ", " + b + ", " + c + ", " + d + ")", x.feasts(a, b, c, d), firstYear(a, b, c, d));
       }
+    Bench.about(27, "FEASTS. NONE.");
     for (Supplier<Scene> of : Bench.SCENES) {
       Bench.asks(of, "feasts(40, 99, 39, 98)", x -> x.feasts(40, 99, 39, 98), 1619);
       Bench.asks(of, "feasts(2, 0, 2, 1)", x -> x.feasts(2, 0, 2, 1), Bench.NONE);

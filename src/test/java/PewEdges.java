@@ -137,7 +137,7 @@ final class PewEdges {
   }
 
   private static void undoes() {
-    Bench.about(10, "UNDO: PEWS, COLDS as ahead of the last MOVE, COLD told (8 at most; behind a FAMILY that comes none may be).");
+    Bench.about(10, "(8 at most;");
     for (int told = 1; told <= 12; told++) {
       EveryPew x = new EveryPew();
       x.family(0, 0, 5, 5, 8);
@@ -153,6 +153,7 @@ final class PewEdges {
       }
       Bench.due(told + " told, undo() once more", x.undo(), Bench.NO);
     }
+    Bench.about(10, "UNDO: PEWS, COLDS as ahead of the last MOVE, COLD told");
     EveryPew x = new EveryPew();
     x.family(0, 0, 5, 5, 0);
     for (int i = 0; i < 8; i++) x.cold(0, 1);
@@ -164,8 +165,9 @@ final class PewEdges {
     x.move(0, 2);
     x.cold(0, 2);
     Bench.due("count(5): a refused one is none", x.count(5), 7);
+    Bench.about(10, "behind a FAMILY that comes none may be).");
     x.family(0, 0, 5, 5, 2);
-    Bench.due("count(5): nor is a refused family", x.count(5), 7);
+    Bench.due("count(5): a refused family does not come", x.count(5), 7);
     x.family(0, 0, 5, 5, 0);
     Bench.due("count(5) behind a family that came", x.count(5), 0);
     Bench.due("undo()", x.undo(), Bench.NO);
@@ -274,6 +276,10 @@ final class PewEdges {
 
   private static void plain() {
     Bench.about(12, "KINDS, each under the one told, say whether one KNEELS at a WORD, by whether the own BOOK does (o), the other one (t), how high one is, kneeling or not, how many VOICES:");
+    // Kneeling, and so height and voices, is by the own kind's rule, not by that of the one it is under.
+    row(3, 8, 8, 1, 9, 9, 9, 9);
+    row(5, 8, 8, 1, 8, 8, 8, 4);
+    row(5, 8, 8, 2, 7, 7, 7, 0);
     Bench.about(12, "0 PLAIN: o; TALL, half (cut) kneeling; VOICES, 0 kneeling.");
     row(0, 5, 5, 0, 0, 1, 0, 1);
     int[] half = {0, 0, 1, 1, 2, 2, 3, 3, 4, 4};

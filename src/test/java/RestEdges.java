@@ -32,7 +32,6 @@ final class RestEdges {
 
   private static void images() {
     Bench.about(31, "IMAGES 0, 1 keep all but them, THE TEXT, THE FRACTION and STATUS; what may be undone they keep; it goes on from one.");
-    Bench.about(31, "An IMAGE is kept: 1.");
     for (Supplier<Scene> of : Bench.SCENES)
       for (int i = 0; i < 2; i++) {
         Scene scene = of.get();
@@ -43,13 +42,14 @@ final class RestEdges {
         if (!scene.name.equals("crowded")) scene.check(x, "image(" + i + ")");
         else imageOfCrowded(scene, x, i);
       }
+    Bench.about(31, "An IMAGE is kept: 1.");
     EveryPew x = new EveryPew();
     x.church(3);
-    x.image(0);
+    Bench.due("image(0)", x.image(0), 1);
     x.church(4);
-    x.image(1);
+    Bench.due("image(1)", x.image(1), 1);
     x.church(5);
-    x.image(0);
+    Bench.due("image(0) again", x.image(0), 1);
     x.church(6);
     x.from(1);
     Bench.due("count(1): image 1 is not image 0", x.count(1), 4);
@@ -114,7 +114,6 @@ final class RestEdges {
   }
 
   private static void status() {
-    Bench.about(33, "STATUS: how many calls were refused as BAD, NO, FULL (each answer told so below is such a one).");
     Bench.about(33, "STATUS: BAD (0), NO (1), FULL (2).");
     int[][] due = {{0, 0, 0}, {2, 1, 0}, {1, 1, 3}};
     for (int i = 0; i < 3; i++)
@@ -122,6 +121,7 @@ final class RestEdges {
         int which = what;
         Bench.asks(Bench.SCENES.get(i), "status(" + what + ")", x -> x.status(which), due[i][what]);
       }
+    Bench.about(33, "STATUS: how many calls were refused as BAD, NO, FULL (each answer told so below is such a one).");
     EveryPew x = new EveryPew();
     // NONE, 7, a FAULT and 0 are answers, not refusals.
     x.breach(0);

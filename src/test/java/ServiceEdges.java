@@ -35,12 +35,12 @@ final class ServiceEdges {
 
   private static void up() {
     Bench.about(13, "UP at a WORD: FAMILIES (bits) that do not KNEEL.");
-    Bench.about(13, "UP, as bits.");
     int[] due = {6, 5, 7, 7, 7, 7, 7, 7, 7, 7, 7, 7, 7, 7, 7, 6};
     for (int w = 0; w < 16; w++) {
       int word = w;
       Bench.asks(Scene::midway, "up(" + w + ")", x -> x.up(word), due[w]);
     }
+    Bench.about(13, "UP, as bits.");
     for (int w : new int[] {0, 15}) {
       Bench.asks(Scene::fresh, "up(" + w + ")", x -> x.up(w), 0);
       Bench.asks(Scene::crowded, "up(" + w + ")", x -> x.up(w), 3);
@@ -81,12 +81,12 @@ final class ServiceEdges {
     alone.family(4, 1, 1, 1, 9);
     Bench.due("seers(0), one alone in the last pew", alone.seers(0), 1);
     Bench.about(14, "SEERS at a WORD: FAMILIES (bits) that SEE.");
-    Bench.about(14, "SEERS, as bits.");
     int[] due = {6, 7, 6, 6, 6, 6, 6, 6, 6, 6, 6, 6, 6, 6, 6, 6};
     for (int w = 0; w < 16; w++) {
       int word = w;
       Bench.asks(Scene::midway, "seers(" + w + ")", x -> x.seers(word), due[w]);
     }
+    Bench.about(14, "SEERS, as bits.");
     for (int w : new int[] {0, 15}) {
       Bench.asks(Scene::fresh, "seers(" + w + ")", x -> x.seers(w), 0);
       // From the front: 0 of family 2, 2 of 1, 0 of 5, 1 of 4, 2 of 6, 10 of 0, 1 of 3.
@@ -159,6 +159,12 @@ final class ServiceEdges {
 
   private static void breach() {
     Bench.about(16, "BREACH: the first WORD from w (0 .. 15) on without PEACE; none.");
+    for (int only = 0; only < 16; only++) {
+      EveryPew x = new EveryPew();
+      x.family(0, 0, 5, 10, 0);
+      x.book(0, 65535 - (1 << only));
+      for (int w = 0; w < 16; w++) Bench.due("at " + only + " alone: breach(" + w + ")", x.breach(w), w <= only ? only : Bench.NONE);
+    }
     Bench.about(16, "BREACH. NONE.");
     for (int w = 0; w < 16; w++) {
       int word = w;
@@ -166,18 +172,11 @@ final class ServiceEdges {
       Bench.asks(Scene::crowded, "breach(" + w + ")", x -> x.breach(word), Bench.NONE);
       Bench.asks(Scene::midway, "breach(" + w + ")", x -> x.breach(word), w == 0 ? 1 : w == 15 ? Bench.NONE : w);
     }
-    for (int only = 0; only < 16; only++) {
-      EveryPew x = new EveryPew();
-      x.family(0, 0, 5, 10, 0);
-      x.book(0, 65535 - (1 << only));
-      for (int w = 0; w < 16; w++) Bench.due("at " + only + " alone: breach(" + w + ")", x.breach(w), w <= only ? only : Bench.NONE);
-    }
     words(16, y -> y.breach(16), y -> y.breach(-1), y -> y.breach(Integer.MAX_VALUE), y -> y.breach(Integer.MIN_VALUE));
   }
 
   private static void canNot() {
     Bench.about(17, "CAN NOT: WORDS (bits) at which one BOOK KNEELS, the other one does not.");
-    Bench.about(17, "CAN NOT, as bits.");
     int[][] rows = {{0, 0, 0}, {65535, 0, 65535}, {0, 65535, 65535}, {65535, 65535, 0}, {1, 32768, 32769}, {3, 6, 5}, {32768, 0, 32768}};
     for (int[] row : rows) {
       EveryPew x = new EveryPew();
@@ -185,6 +184,15 @@ final class ServiceEdges {
       x.book(1, row[1]);
       Bench.due("canNot() of " + row[0] + " and " + row[1], x.canNot(), row[2]);
     }
+    Bench.about(17, "CAN NOT, as bits.");
+    for (int w = 0; w < 16; w++)
+      for (int b = 0; b < 2; b++) {
+        EveryPew x = new EveryPew();
+        x.book(b, 1 << w);
+        Bench.due("book " + b + " alone kneels at " + w + ": canNot()", x.canNot(), 1 << w);
+        x.book(1 - b, 1 << w);
+        Bench.due("both kneel at " + w + ": canNot()", x.canNot(), 0);
+      }
   }
 
   /** Families of PLAIN ones, a BOOK and TALL each; who see at best, then where they sit in the first such way. */
@@ -269,10 +277,7 @@ final class ServiceEdges {
   }
 
   private static void change() {
-    Bench.about(19, "CHANGE: the FAMILY by whose having the other BOOK (its PEW is no matter) there would be PEACE at most WORDS; of like ones the first; 7: nobody, if by none at more than as it is; at how many WORDS then.");
-    changes("nobody there", new EveryPew(), 7, 16);
-    changes("peace at all as it is", of(9, 9, 0), 7, 16);
-    changes("one alone", of(0, 1, 0), 7, 0);
+    Bench.about(19, "CHANGE: the FAMILY by whose having the other BOOK (its PEW is no matter) there would be PEACE at most WORDS; of like ones the first;");
     EveryPew like = new EveryPew();
     like.church(0);
     for (int i = 0; i < 2; i++) like.family(0, 0, 5, 6, 2 * i);
@@ -284,6 +289,17 @@ final class ServiceEdges {
     last.family(0, 1, 5, 7, 3);
     // 5 against 19; with the 7 12 against 12, though all pews of book 0 are taken.
     changes("the seventh", last, 6, 16);
+    EveryPew most = new EveryPew();
+    most.church(0);
+    most.book(1, 1);
+    // Book 1 kneels at word 0: the plain ones of it would be gone there, the deacon's not.
+    most.family(0, 0, 5, 5, 0);
+    most.family(3, 0, 5, 5, 2);
+    changes("15 words by the first, 16 by the second", most, 1, 16);
+    Bench.about(19, "7: nobody, if by none at more than as it is; at how many WORDS then.");
+    changes("nobody there", new EveryPew(), 7, 16);
+    changes("peace at all as it is", of(9, 9, 0), 7, 16);
+    changes("one alone", of(0, 1, 0), 7, 0);
     EveryPew one = new EveryPew();
     one.family(0, 0, 5, 10, 0);
     one.book(1, 32768);
@@ -292,13 +308,6 @@ final class ServiceEdges {
     changes("one word as it is, another by it", one, 7, 1);
     one.book(0, 3);
     changes("fewer words by it", one, 7, 2);
-    EveryPew most = new EveryPew();
-    most.church(0);
-    most.book(1, 1);
-    // Book 1 kneels at word 0. 5 of a deacon's and 5 plain ones, or 5 and 5 deacons': 16 words by a deacon's alone.
-    most.family(0, 0, 5, 5, 0);
-    most.family(3, 0, 5, 5, 2);
-    changes("15 words by the first, 16 by the second", most, 1, 16);
     Bench.about(19, "CHANGE: which (0), at how many WORDS (1).");
     int[][] due = {{7, 16}, {7, 2}, {7, 16}};
     for (int i = 0; i < 3; i++)
@@ -312,10 +321,6 @@ final class ServiceEdges {
 
   private static void still() {
     Bench.about(20, "STILL: the fewest FAMILIES (bits; of like ones the least) with a COLD besides those who have one, by which there is PEACE at all WORDS; none.");
-    Bench.about(20, "STILL, as bits. NONE.");
-    Bench.asks(Scene::fresh, "still()", EveryPew::still, 0);
-    Bench.asks(Scene::midway, "still()", EveryPew::still, 1);
-    Bench.asks(Scene::crowded, "still()", EveryPew::still, 0);
     Bench.due("more by the limit: still()", of(9, 9, 0).still(), 0);
     Bench.due("by one more: still()", of(9, 10, 0).still(), 1);
     // At word 0 book 1 alone is heard, at word 1 book 0 alone: all must be still, so there is always such a set.
@@ -349,5 +354,10 @@ final class ServiceEdges {
     late.family(0, 0, 5, 5, 0);
     late.family(0, 1, 5, 5, 1);
     Bench.due("peace but for the last word: still()", late.still(), 3);
+    // Were all to have one, neither book would be loud: NONE is never due.
+    Bench.about(20, "STILL, as bits. NONE.");
+    Bench.asks(Scene::fresh, "still()", EveryPew::still, 0);
+    Bench.asks(Scene::midway, "still()", EveryPew::still, 1);
+    Bench.asks(Scene::crowded, "still()", EveryPew::still, 0);
   }
 }

@@ -84,20 +84,20 @@ final class TextEdges {
 
   private static void longestText() {
     Bench.about(7, "THE CHURCH is told by a TEXT (150 bytes at most) of ITEMS, each ended by ; :");
-    Bench.about(7, "THE CHURCH is read: how many ITEMS.");
-    reads("church 5;", 1);
-    reads("church 5;book 0;", 2);
     reads(" ".repeat(141) + "church 5;", 1);
     reads(" ".repeat(142) + "church 5;", -160);
     reads("church 5;" + " ".repeat(141), 1);
+    reads("church 5 book 0;", -10 - 9);
+    reads("church 5;book 0 cold 0;", -10 - 16);
+    Bench.about(7, "THE CHURCH is read: how many ITEMS.");
+    reads("church 5;", 1);
+    reads("church 5;book 0;", 2);
     // 9 bytes and 20 times 7: one byte is left.
     reads("church 5;" + "book 1;".repeat(20), 21);
     reads("church 5;" + "book 1;".repeat(20) + " ", 21);
     reads("church 5;" + "book 1;".repeat(20) + "b", -10 - 149);
     reads(SEVEN, 8);
     reads(SEVEN + "cold 0;cold 6;" + "book 0;", 11);
-    reads("church 5 book 0;", -10 - 9);
-    reads("church 5;book 0 cold 0;", -10 - 16);
   }
 
   private static void churchFirst() {

@@ -10,6 +10,7 @@ final class ChurchEdges {
     churchBegins();
     churchIsRefused();
     wordsOfBooks();
+    bookChangesNothingElse();
     bookIsRefused();
     familiesAsTheyCome();
     numbersOfFamilies();
@@ -92,6 +93,27 @@ final class ChurchEdges {
         int same = of.get().church.books[b];
         Bench.asks(of, "book(" + b + ", as it was)", y -> y.book(book, same), same);
       }
+  }
+
+  private static void bookIs(Supplier<Scene> of, int b, int words, int were, int peace) {
+    Scene scene = of.get();
+    EveryPew x = scene.make();
+    Bench.due(scene.name + ": book(" + b + ", " + words + ")", x.book(b, words), were);
+    scene.church.books[b] = words;
+    scene.church.peace = peace;
+    scene.check(x, "book(" + b + ", " + words + ")");
+  }
+
+  private static void bookChangesNothingElse() {
+    Bench.about(3, "WORDS of a BOOK (bits): what they were.");
+    bookIs(Scene::fresh, 0, 65535, 0, 16);
+    bookIs(Scene::fresh, 1, 32768, 0, 16);
+    // 7 against 2 or, at word 1, none.
+    bookIs(Scene::midway, 0, 0, 32769, 0);
+    // Words 0, 15: none against none; all others 7 against none.
+    bookIs(Scene::midway, 1, 65535, 2, 2);
+    // The waverers are up, the children too: 24 against 22.
+    bookIs(Scene::crowded, 1, 0, 65535, 16);
   }
 
   private static void bookIsRefused() {

@@ -19,6 +19,7 @@ final class CoughEdges {
     colds();
     coldsAreRefused();
     sundays();
+    sundaysOfAllPlaces();
     sundaysOfScenes();
   }
 
@@ -367,6 +368,36 @@ final class CoughEdges {
       if (x.divide(new BigInteger("65536")).mod(new BigInteger("4")).signum() == 0) good++;
     }
     return good;
+  }
+
+  private static final int[] SEVEN_VOICES = {1, 2, 4, 8, 16, 5, 11};
+
+  /** The same for seven, by turns of book 0 and 1, at this limit. */
+  private static int sundaysOfSeven(int seed, int n, int limit) {
+    BigInteger x = BigInteger.valueOf(seed);
+    int good = 0;
+    for (int i = 0; i < n; i++) {
+      int lead = 0;
+      for (int f = 0; f < 7; f++) {
+        x = x.multiply(new BigInteger("1103515245")).add(new BigInteger("12345")).mod(new BigInteger("2147483648"));
+        boolean cold = x.divide(new BigInteger("65536")).mod(new BigInteger("4")).signum() == 0;
+        if (!cold) lead += f % 2 == 0 ? SEVEN_VOICES[f] : -SEVEN_VOICES[f];
+      }
+      if (lead <= limit && lead >= -limit) good++;
+    }
+    return good;
+  }
+
+  private static void sundaysOfAllPlaces() {
+    Bench.about(29, "SUNDAYS.");
+    for (int limit : new int[] {0, 9, 30}) {
+      EveryPew x = new EveryPew();
+      x.church(limit);
+      for (int f = 0; f < 7; f++) x.family(0, f % 2, 5, SEVEN_VOICES[f], f);
+      for (int seed : new int[] {0, 1, 12345, 999998, 999999})
+        for (int n : new int[] {0, 1, 2, 59, 60})
+          Bench.due("seven, limit " + limit + ": sundays(" + seed + ", " + n + ")", x.sundays(seed, n), sundaysOfSeven(seed, n, limit));
+    }
   }
 
   private static void sundays() {

@@ -1,3 +1,4 @@
+import java.util.Arrays;
 import java.util.function.Supplier;
 
 /** Promises 8 to 12: move, cold, undo, of, at, and what KINDS are. */
@@ -10,6 +11,7 @@ final class PewEdges {
     colds();
     coldIsRefused();
     undoes();
+    undoLeavesTheRest();
     undoIsRefused();
     of();
     at();
@@ -184,6 +186,43 @@ final class PewEdges {
     Bench.due("undo()", y.undo(), Bench.NO);
   }
 
+  private static void undoLeavesTheRest() {
+    Bench.about(10, "UNDO: how many COLDS there are then.");
+    Scene midway = Scene.midway();
+    EveryPew x = midway.make();
+    Bench.due("midway: undo()", x.undo(), 1);
+    midway.church.families[0][4] = 4;
+    midway.church.steps = new int[][] {{4, 3, 9, 0}};
+    midway.check(x, "undo()");
+    Scene crowded = Scene.crowded();
+    EveryPew y = crowded.make();
+    Bench.due("crowded: undo()", y.undo(), 3);
+    crowded.church.families[5][4] = 5;
+    crowded.church.steps = Arrays.copyOf(crowded.church.steps, 7);
+    crowded.check(y, "undo()");
+    Bench.about(10, "UNDO: PEWS, COLDS as ahead of the last MOVE, COLD told");
+    EveryPew z = new EveryPew();
+    z.family(0, 0, 5, 10, 0);
+    z.cold(0, 1);
+    z.book(1, 6);
+    z.heard(3, 1, 9);
+    z.type('c');
+    z.image(0);
+    z.colds(1, 5);
+    z.up(16);
+    Bench.due("undo()", z.undo(), 0);
+    Told told = new Told();
+    told.books[1] = 6;
+    told.families = new int[][] {{0, 0, 5, 10, 0, 0}};
+    told.heard = new int[][] {{3, 1, 9}};
+    told.peace = 0;
+    Bench.due("digest(): what else was told since stays", z.digest(), told.digest(1, 1, 1));
+    Bench.due("status(0)", z.status(0), 1);
+    Bench.due("from(0): kept with the cold", z.from(0), 1);
+    Bench.due("of(0, 5)", z.of(0, 5), 1);
+    Bench.due("undo() of what the image keeps", z.undo(), 0);
+  }
+
   private static void undoIsRefused() {
     Bench.about(10, "NO: none may be.");
     Bench.refused(Scene::fresh, "undo()", EveryPew::undo, Bench.NO);
@@ -246,6 +285,15 @@ final class PewEdges {
           int w = words[i];
           int which = what;
           Bench.asks(Scene::midway, "at(" + f + ", " + w + ", " + what + ")", x -> x.at(it, w, which), due[f][i][what]);
+        }
+    // Pews 8, 1, 0, 9, 4, 3, 6; all kneel at all words but the deacons; two others are not high at all, one of them in front.
+    int[][] crowded = {{0, 10, 20, 1}, {0, 2, 20, 1}, {1, 0, 0, 1}, {1, 1, 0, 0}, {1, 1, 0, 0}, {1, 0, 0, 0}, {1, 2, 0, 0}};
+    for (int f = 0; f < 7; f++)
+      for (int w : new int[] {0, 15})
+        for (int what = 0; what < 4; what++) {
+          int it = f;
+          int which = what;
+          Bench.asks(Scene::crowded, "at(" + f + ", " + w + ", " + what + ")", x -> x.at(it, w, which), crowded[f][what]);
         }
   }
 

@@ -10,6 +10,7 @@ final class RestEdges {
     images();
     imageIsRefused();
     from();
+    goesOnWithAllPlacesTaken();
     fromIsRefused();
     status();
     orderOfReasons();
@@ -103,6 +104,33 @@ final class RestEdges {
     Bench.due("of(0, 5)", z.of(0, 5), 0);
     Bench.due("from(0): the image is as it was", z.from(0), 1);
     Bench.due("count(0)", z.count(0), 0);
+  }
+
+  private static void goesOnWithAllPlacesTaken() {
+    Bench.about(32, "It goes on from an IMAGE: 1.");
+    Scene scene = Scene.crowded();
+    EveryPew x = scene.make();
+    long digest = scene.church.digest(150, scene.above, scene.below);
+    x.image(0);
+    x.church(1);
+    Bench.due("from(0)", x.from(0), 1);
+    Bench.due("an eighth family", x.family(0, 0, 5, 5, 2), Bench.FULL);
+    Bench.due("a seventh heard", x.heard(0, 0, 0), Bench.FULL);
+    Bench.due("digest() as kept", x.digest(), digest);
+    // A ninth that may be undone: the oldest goes, though not out of the image.
+    Bench.due("move(6, 2)", x.move(6, 2), 6);
+    Bench.due("count(5)", x.count(5), 8);
+    int[] colds = {3, 3, 2, 2, 3, 2, 2, 1};
+    for (int n : colds) Bench.due("undo()", x.undo(), n);
+    Bench.due("undo() a ninth time", x.undo(), Bench.NO);
+    x.forget();
+    x.book(0, 0);
+    x.cold(6, 1);
+    Bench.due("from(0) again", x.from(0), 1);
+    Bench.due("digest() as kept, whatever came since", x.digest(), digest);
+    int[] kept = {3, 2, 2, 3, 2, 2, 1, 0};
+    for (int n : kept) Bench.due("undo()", x.undo(), n);
+    Bench.due("undo() a ninth time", x.undo(), Bench.NO);
   }
 
   private static void fromIsRefused() {

@@ -23,6 +23,8 @@ final class TextEdges {
     endsTooEarly();
     faultLeavesAll();
     readTakesThePlace();
+    readBehindAFault();
+    goesOnFromARead();
   }
 
   private static EveryPew typed(String text) {
@@ -53,6 +55,17 @@ final class TextEdges {
     Bench.due("type(59) comes behind", y.type(';'), 10);
     Bench.due("read()", y.read(), 1);
     Bench.due("count(1)", y.count(1), 12);
+    Scene fresh = Scene.fresh();
+    EveryPew first = fresh.make();
+    Bench.due("fresh: type('c')", first.type('c'), 1);
+    fresh.text = "c";
+    fresh.rest = "hurch 1;";
+    fresh.check(first, "type('c')");
+    Scene midway = Scene.midway();
+    EveryPew next = midway.make();
+    Bench.due("midway: type(';')", next.type(';'), 18);
+    midway.retyped("church 7;book 1 3;", 2, 7);
+    midway.check(next, "type(';')");
   }
 
   private static void typeIsRefused() {
@@ -222,6 +235,7 @@ final class TextEdges {
     EveryPew twice = typed("church 5;family 0 0 5 5 4;cold 0;cold 0;");
     Bench.due("read(), cold twice", twice.read(), 4);
     Bench.due("count(2), cold twice", twice.count(2), 1);
+    severalColds();
     Bench.about(7, "a FAMILY that is not there yet,");
     faults("church 5;cold 0;", 14);
     faults("church 5;cold 0;family 0 0 5 5 4;", 14);
@@ -234,6 +248,22 @@ final class TextEdges {
     EveryPew x = typed("church 5;family 0 0 5 5 4;cold 1;");
     for (int i = 0; i < 5; i++) x.family(0, 0, 5, 5, 2 * i);
     Bench.due("read(): families ahead of it are not the text's", x.read(), -10 - 31);
+  }
+
+  private static void coldsAre(String text, int items, int colds, int families) {
+    EveryPew x = typed(text);
+    Bench.due("read() of '" + text + "'", x.read(), items);
+    Bench.due("count(2) behind '" + text + "'", x.count(2), Integer.bitCount(colds));
+    for (int f = 0; f < families; f++) Bench.due("of(" + f + ", 5) behind '" + text + "'", x.of(f, 5), colds >> f & 1);
+  }
+
+  /** One cold does not end another: all of five families, and as many of seven as there is room for (149 bytes). */
+  private static void severalColds() {
+    coldsAre("church 5;family 0 0 1 1 0;family 0 0 1 1 2;cold 0;cold 1;", 5, 3, 2);
+    coldsAre("church 5;family 0 0 1 1 0;cold 0;family 0 0 1 1 2;cold 1;", 5, 3, 2);
+    coldsAre("church 5;family 0 0 1 1 0;cold 0;family 0 0 1 1 2;", 4, 1, 2);
+    coldsAre("church 5;" + SEVEN.substring(9, 9 + 5 * 17) + "cold 4;cold 0;cold 3;cold 1;cold 2;", 11, 31, 5);
+    coldsAre(SEVEN + "cold 6;cold 0;cold 3;", 11, 64 + 1 + 8, 7);
   }
 
   private static void tokens() {
@@ -431,5 +461,39 @@ final class TextEdges {
         scene.retyped(church == 0 ? "church 0;" : text, church == 0 ? 1 : 5, church == 0 ? 0 : 2);
         scene.check(x, "read()");
       }
+  }
+
+  private static void readBehindAFault() {
+    Bench.about(7, "-10 less the FAULT: all stays.");
+    EveryPew x = typed("church 3;book 0 1;book 1 2;family 0 0 9 9 0;cold 0;-");
+    Bench.due("read() with a fault at its end", x.read(), -10 - 51);
+    x.clear();
+    Bench.type(x, "church 4;");
+    Bench.due("read() of a church alone", x.read(), 1);
+    Bench.due("digest(): nothing of the one with the fault", x.digest(), Told.begun(4).digest(9, 0, 1));
+    EveryPew y = typed("church 3;book 0 1;family 0 0 9 9 0;cold 0;");
+    Bench.due("read()", y.read(), 4);
+    y.type('-');
+    Bench.due("read() with one byte more", y.read(), -10 - 42);
+    Told told = Told.begun(3);
+    told.books[0] = 2;
+    told.families = new int[][] {{0, 0, 9, 9, 0, 1}};
+    Bench.due("digest(): but for the byte as it was read", y.digest(), told.digest(43, 0, 1));
+  }
+
+  private static void goesOnFromARead() {
+    Bench.about(7, "THE CHURCH is read: how many ITEMS.");
+    EveryPew x = typed(SEVEN + "cold 6;");
+    Bench.due("read() of seven", x.read(), 9);
+    Bench.due("read() again: the same once more", x.read(), 9);
+    Bench.due("count(0)", x.count(0), 7);
+    Bench.due("family in pew 7, an eighth", x.family(0, 1, 1, 1, 7), Bench.FULL);
+    Bench.due("family in pew 6, taken", x.family(0, 0, 1, 1, 6), Bench.NO);
+    Bench.due("move(6, 8)", x.move(6, 8), 6);
+    Bench.due("undo()", x.undo(), 1);
+    Bench.due("undo(), the text's own cold stays", x.undo(), Bench.NO);
+    EveryPew y = typed("church 5;family 0 0 1 1 0;");
+    Bench.due("read() of one", y.read(), 2);
+    Bench.due("family behind it: the second", y.family(0, 0, 1, 1, 2), 1);
   }
 }
